@@ -1,0 +1,195 @@
+import java.math.BigInteger;
+import java.util.Arrays;
+import java.util.Comparator;
+import java.util.Random;
+import java.util.TreeMap;
+
+/** Many polynomials, the same at every run, against the slow ways of {@link Slow}. */
+public final class RandomTest {
+    private static final Random CHANCE = new Random(20261115);
+
+    public static void main(String[] args) {
+        for (int k = 0; k < 3000; k++) {
+            int bound = new int[] {1, 3, 20, 9999}[k % 4];
+            single(chosen(k % 11, bound));
+            pair(chosen(CHANCE.nextInt(4), bound), chosen(CHANCE.nextInt(5), 9), chosen(CHANCE.nextInt(5), 9));
+        }
+        for (int k = 0; k < 3000; k++) {
+            knownFactors();
+        }
+        for (int k = 0; k < 400; k++) {
+            modular(chosen(k % 11, 50));
+        }
+        for (int k = 0; k < 400; k++) {
+            smallRoots(chosen(1 + k % 4, 6));
+        }
+        Check.end();
+    }
+
+    private static int[] chosen(int degree, int bound) {
+        int[] row = new int[degree + 1];
+        for (int k = 0; k <= degree; k++) {
+            row[k] = CHANCE.nextInt(2 * bound + 1) - bound;
+        }
+        return row;
+    }
+
+    private static boolean fits(BigInteger[] row) {
+        for (BigInteger v : row) {
+            if (v.abs().compareTo(BigInteger.valueOf(9999)) > 0) {
+                return false;
+            }
+        }
+        return row.length <= 11;
+    }
+
+    private static int[] ints(BigInteger[] row) {
+        int[] result = new int[row.length];
+        for (int k = 0; k < row.length; k++) {
+            result[k] = row[k].intValueExact();
+        }
+        return result;
+    }
+
+    private static void single(int[] row) {
+        String what = Arrays.toString(row);
+        LiftFactors x = new LiftFactors();
+        int p = Check.make(x, row);
+        BigInteger[] slow = Slow.row(row);
+        Check.same("content of " + what, x.content(p), Slow.content(slow).intValue());
+        Check.same("squareFree of " + what, x.squareFree(p) ? 1 : 0, Slow.squareFree(slow) ? 1 : 0);
+        int m = 1 + CHANCE.nextInt(1000000);
+        int place = CHANCE.nextInt();
+        Check.same("value of " + what + " at " + place + " modulo " + m, x.value(p, place, m), Slow.value(slow, place, m));
+        if (slow.length > 1) {
+            productOfFactors(what, x, p, slow);
+        }
+    }
+
+    private static void productOfFactors(String what, LiftFactors x, int p, BigInteger[] slow) {
+        int factors = x.run(p);
+        if (factors == -2) {
+            return;
+        }
+        BigInteger[] product = {Slow.content(slow)};
+        int linear = 0;
+        for (int k = 0; k < factors; k++) {
+            int[] row = new int[11];
+            for (int j = 0; j <= 10; j++) {
+                row[j] = x.at(x.factor(k), j);
+            }
+            BigInteger[] factor = Slow.row(row);
+            linear += factor.length == 2 ? 1 : 0;
+            for (int j = 0; j < x.multiplicity(k); j++) {
+                product = Slow.product(product, factor);
+            }
+        }
+        Check.yes("product of the factors of " + what, Arrays.equals(product, slow));
+        Check.same("roots of " + what, x.roots(p), linear);
+    }
+
+    private static void pair(int[] shared, int[] left, int[] right) {
+        BigInteger[] a = Slow.product(Slow.row(shared), Slow.row(left));
+        BigInteger[] b = Slow.product(Slow.row(shared), Slow.row(right));
+        if (!fits(a) || !fits(b)) {
+            return;
+        }
+        String what = Arrays.toString(a) + " and " + Arrays.toString(b);
+        LiftFactors x = new LiftFactors();
+        int p = Check.make(x, ints(a));
+        int q = Check.make(x, ints(b));
+        answer("gcd of " + what, x, x.gcd(p, q), Slow.gcd(a, b));
+        if (b.length > 0) {
+            answer("over of " + what, x, x.over(p, q), Slow.quotient(a, b));
+        }
+        BigInteger[] product = Slow.product(a, b);
+        if (fits(product)) {
+            answer("times of " + what, x, x.times(p, q), product);
+        } else {
+            Check.fails("times of " + what, IllegalArgumentException.class, () -> x.times(p, q));
+        }
+    }
+
+    private static void answer(String what, LiftFactors x, int number, BigInteger[] due) {
+        if (due == null || !fits(due)) {
+            Check.same(what, number, -1);
+        } else {
+            Check.same(what, number, x.count() - 1);
+            Check.row(what, x, number, ints(due));
+        }
+    }
+
+    /** Eisenstein's rows by 2, 3, 5 and 7, and linear ones, fall no further apart. */
+    private static BigInteger[] prime() {
+        int degree = 1 + CHANCE.nextInt(4);
+        int e = new int[] {2, 3, 5, 7}[CHANCE.nextInt(4)];
+        int[] row = chosen(degree, 2);
+        for (int k = 0; k < degree; k++) {
+            row[k] *= e;
+        }
+        row[0] = CHANCE.nextBoolean() ? e : -e;
+        row[degree] = 1 + CHANCE.nextInt(e - 1);
+        return Slow.primitive(Slow.row(row));
+    }
+
+    private static void knownFactors() {
+        Comparator<BigInteger[]> order = (a, b) -> {
+            int before = Integer.compare(a.length, b.length);
+            for (int k = a.length - 1; k >= 0 && before == 0; k--) {
+                before = a[k].compareTo(b[k]);
+            }
+            return before;
+        };
+        TreeMap<BigInteger[], Integer> due = new TreeMap<>(order);
+        BigInteger[] product = {BigInteger.valueOf(CHANCE.nextBoolean() ? 2 : -1)};
+        for (int k = 0; k < 12; k++) {
+            BigInteger[] next = prime();
+            BigInteger[] more = Slow.product(product, next);
+            if (fits(more)) {
+                product = more;
+                due.merge(next, 1, Integer::sum);
+            }
+        }
+        LiftFactors x = new LiftFactors();
+        int p = Check.make(x, ints(product));
+        String what = "factors of " + Arrays.toString(product);
+        Check.same(what, x.run(p), due.size());
+        int k = 0;
+        for (BigInteger[] factor : due.keySet()) {
+            Check.same(what, x.multiplicity(k), due.get(factor));
+            Check.row(what, x, x.factor(k), ints(factor));
+            k++;
+        }
+    }
+
+    private static void modular(int[] row) {
+        LiftFactors x = new LiftFactors();
+        int p = Check.make(x, row);
+        BigInteger[] slow = Slow.row(row);
+        for (int prime : new int[] {2, 3, 5, 7}) {
+            boolean none = slow.length == 0 || slow[slow.length - 1].intValue() % prime == 0;
+            Check.same("parts of " + Arrays.toString(row) + " modulo " + prime, x.parts(p, prime),
+                    none ? -1 : Slow.parts(slow, prime));
+        }
+    }
+
+    private static void smallRoots(int[] row) {
+        BigInteger[] slow = Slow.row(row);
+        LiftFactors x = new LiftFactors();
+        int p = Check.make(x, row);
+        String what = "roots of " + Arrays.toString(row);
+        int found = 0;
+        // Coefficients up to 6 leave fractions from -6 to 6 with 1 .. 6 below, all of them whole sixtieths.
+        for (int step = -360; step <= 360 && slow.length > 0; step++) {
+            int measure = BigInteger.valueOf(step).gcd(BigInteger.valueOf(60)).intValue();
+            int up = step / measure;
+            int down = 60 / measure;
+            if (Slow.isRoot(slow, up, down)) {
+                Check.same(what, x.root(p, found, 0), up);
+                Check.same(what, x.root(p, found, 1), down);
+                found++;
+            }
+        }
+        Check.same(what, x.roots(p), slow.length == 0 ? -1 : found);
+    }
+}
