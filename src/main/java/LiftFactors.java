@@ -18,8 +18,8 @@ public final class LiftFactors {
      * coefficient of a divisor, brought to the head of the whole, is at most 252 times that. Twice this
      * is below 2^24: a divisor is known from its remainders by any one of these primes.
      *
-     * A prime is unfit only if it divides one certain whole number, a discriminant or a subresultant,
-     * that is less than 10^94 by Hadamard. Thirteen of these primes can't all do that.
+     * A prime misleads only if it divides one certain whole number, a subresultant of the two polynomials,
+     * that is less than 10^94 by Hadamard: fourteen of these primes can't all do that.
      */
     private static final long[] PRIMES = {
         16777259, 16777289, 16777291, 16777331, 16777333, 16777337, 16777381, 16777421,
@@ -701,7 +701,6 @@ public final class LiftFactors {
                 return;
             }
             takeSquareFreePart(primitive);
-            chooseField();
             field.makeMonic(left, monic);
             splitter.findFixed(monic);
             splitter.split(monic);
@@ -709,22 +708,15 @@ public final class LiftFactors {
             countMultiplicities(primitive);
         }
 
+        /**
+         * The prime that proves the common divisor stays in the field: modulo it no more roots fall together
+         * than over the whole numbers, so the part is square-free there too, and can be split.
+         */
         private void takeSquareFreePart(long[] primitive) {
             Rows.derive(primitive, derived);
             common.find(primitive, derived, candidate);
             divider.divide(primitive, candidate);
             Rows.copy(divider.quotient, left);
-        }
-
-        /** Takes a prime modulo which the part stays square-free, for only then are pieces and factors alike. */
-        private void chooseField() {
-            Rows.derive(left, derived);
-            boolean fit = false;
-            for (int k = 0; k < PRIMES.length && !fit; k++) {
-                field.choose(PRIMES[k]);
-                field.commonDivisor(left, derived, candidate);
-                fit = Rows.degree(candidate) == 0;
-            }
         }
 
         /** Small sets of pieces go first, so that a set that divides is no union of two that do. */
@@ -779,12 +771,12 @@ public final class LiftFactors {
             if (foundCount >= TOP) {
                 return;
             }
-            Rows.copy(row, found[foundCount]);
-            for (int k = foundCount; k > 0 && Rows.isBefore(found[k], found[k - 1]); k--) {
-                long[] later = found[k - 1];
-                found[k - 1] = found[k];
-                found[k] = later;
+            int place = foundCount;
+            while (place > 0 && Rows.isBefore(row, found[place - 1])) {
+                Rows.copy(found[place - 1], found[place]);
+                place--;
             }
+            Rows.copy(row, found[place]);
             foundCount++;
         }
 

@@ -22,19 +22,24 @@ final class Check {
         same(what, got ? 1 : 0, 0);
     }
 
-    /** The class must be the very one: a class below or above it doesn't count. */
+    /** The class must be the very one, and the program's own throw: what the machine throws doesn't count. */
     static void fails(String what, Class<?> due, Runnable call) {
         made++;
         String got = "nothing";
         try {
             call.run();
         } catch (RuntimeException e) {
-            got = e.getClass().getName();
+            got = (isTheMachines(e) ? "by the machine: " : "") + e.getClass().getName();
         }
         if (!got.equals(due.getName())) {
             wrong++;
             System.out.println(what + " threw " + got + ", due is " + due.getName());
         }
+    }
+
+    private static boolean isTheMachines(RuntimeException e) {
+        String text = e.getMessage();
+        return text == null || text.contains("out of bounds") || text.contains("by zero");
     }
 
     static void row(String what, LiftFactors x, int p, int... due) {

@@ -79,6 +79,9 @@ public final class FactorTest {
         int before = x.count();
         Check.same("(x - 1)(9001x^2 + 15000x + 9001)", x.run(p), -2);
         Check.same("(x^2 - x + 1)(9001x^2 + 15000x + 9001)", x.run(q), -2);
+        int r = Check.make(x, 9001, 5999, 3002, -3002, 3002, 5999, 9001);
+        before++;
+        Check.same("(9001x^2 + 15000x + 9001)(x^4 - x^3 + x^2 - x + 1)", x.run(r), -2);
         Check.same("no number is given", x.count(), before);
         Check.same("what was factored stays", x.factor(1), 2);
         Check.same("its multiplicity too", x.multiplicity(1), 1);
@@ -162,20 +165,33 @@ public final class FactorTest {
         }
     }
 
-    /** Modulo the primes that the program works with, each of these has a root twice, or in common. */
+    /** The discriminants of these are the sixteen primes above 2^24, or below 0: each has a root twice by one. */
+    private static final int[][] UNFIT = {
+        {9059, 3, 463}, {-4594, 1, 913}, {3011, 1, 1393}, {9777, 1, 429},
+        {-9777, 1, 429}, {-7571, 1, 554}, {-9777, 7, 429}, {-4241, 5, 989},
+        {-8595, 1, 488}, {9158, 3, 458}, {-9869, 13, 425}, {6711, 1, 625},
+        {3931, 1, 1067}, {4849, 3, 865}, {7959, 1, 527}, {-7654, 3, 548},
+    };
+
+    /** Work modulo any of these primes, as the program may do it, must not mislead it. */
     private static void primesThatAreUnfit() {
-        irreducible("discriminant -16777259", 9059, 3, 463);
-        irreducible("discriminant 16777289", -4594, 1, 913);
-        irreducible("discriminant -16777291", 3011, 1, 1393);
+        for (int[] row : UNFIT) {
+            LiftFactors x = new LiftFactors();
+            int near = Check.make(x, -4096, 1);
+            irreducible("a double root modulo a prime", row);
+            Check.yes("a double root modulo a prime", x.squareFree(Check.make(x, row)));
+            int prime = Math.abs(row[1] * row[1] - 4 * row[0] * row[2]);
+            int other = Check.make(x, prime - (1 << 24), 4096);
+            Check.row("a root in common modulo a prime", x, x.gcd(near, other), 1);
+            Check.row("a root in common modulo a prime", x, x.gcd(other, near), 1);
+        }
         LiftFactors x = new LiftFactors();
-        Check.yes("discriminant -16777259", x.squareFree(Check.make(x, 9059, 3, 463)));
-        Check.yes("discriminant 16777289", x.squareFree(Check.make(x, -4594, 1, 913)));
         int a = Check.make(x, 29, 4129, 4100);
         int b = Check.make(x, 4100, 5229, 1129);
-        Check.row("resultant 16777259", x, x.gcd(a, b), 1, 1);
+        Check.row("one root in common, another modulo 16777259", x, x.gcd(a, b), 1, 1);
         int c = Check.make(x, -7, -4093, 4100);
         int d = Check.make(x, -4100, -573, 4673);
-        Check.row("resultant 16777289", x, x.gcd(c, d), -1, 1);
+        Check.row("one root in common, another modulo 16777289", x, x.gcd(c, d), -1, 1);
     }
 
     private static void factorAndMultiplicity() {

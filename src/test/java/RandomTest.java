@@ -4,7 +4,10 @@ import java.util.Comparator;
 import java.util.Random;
 import java.util.TreeMap;
 
-/** Many polynomials, the same at every run, against the slow ways of {@link Slow}. */
+/**
+ * Many polynomials, the same at every run, against the slow ways of {@link Slow}. Some objects are asked for several,
+ * so that nothing of one may be left over when the next is worked on.
+ */
 public final class RandomTest {
     private static final Random CHANCE = new Random(20261115);
 
@@ -14,11 +17,14 @@ public final class RandomTest {
             single(chosen(k % 11, bound));
             pair(chosen(CHANCE.nextInt(4), bound), chosen(CHANCE.nextInt(5), 9), chosen(CHANCE.nextInt(5), 9));
         }
+        LiftFactors x = new LiftFactors();
         for (int k = 0; k < 3000; k++) {
-            knownFactors();
+            x = k % 3 == 0 ? new LiftFactors() : x;
+            knownFactors(x);
         }
         for (int k = 0; k < 400; k++) {
-            modular(chosen(k % 11, 50));
+            x = k % 30 == 0 ? new LiftFactors() : x;
+            modular(x, chosen(CHANCE.nextInt(11), 50));
         }
         for (int k = 0; k < 400; k++) {
             smallRoots(chosen(1 + k % 4, 6));
@@ -132,7 +138,7 @@ public final class RandomTest {
         return Slow.primitive(Slow.row(row));
     }
 
-    private static void knownFactors() {
+    private static void knownFactors(LiftFactors x) {
         Comparator<BigInteger[]> order = (a, b) -> {
             int before = Integer.compare(a.length, b.length);
             for (int k = a.length - 1; k >= 0 && before == 0; k--) {
@@ -150,7 +156,6 @@ public final class RandomTest {
                 due.merge(next, 1, Integer::sum);
             }
         }
-        LiftFactors x = new LiftFactors();
         int p = Check.make(x, ints(product));
         String what = "factors of " + Arrays.toString(product);
         Check.same(what, x.run(p), due.size());
@@ -162,8 +167,7 @@ public final class RandomTest {
         }
     }
 
-    private static void modular(int[] row) {
-        LiftFactors x = new LiftFactors();
+    private static void modular(LiftFactors x, int[] row) {
         int p = Check.make(x, row);
         BigInteger[] slow = Slow.row(row);
         for (int prime : new int[] {2, 3, 5, 7}) {
