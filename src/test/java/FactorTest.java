@@ -243,6 +243,10 @@ public final class FactorTest {
         Check.no("(x^2 + 1)^2 (x - 3)", x.squareFree(q));
         Check.yes("9x^2 - 9", x.squareFree(Check.make(x, -9, 0, 9)));
         Check.yes("great ones", x.squareFree(Check.make(x, 9999, 9998, 9997, 0, 0, 0, 0, 0, 0, 0, -9999)));
+        int high = Check.make(x, 5, 0, 0, 0, 0, 0, 0, 0, 0, 0, 7);
+        int square = Check.make(x, 1, -2, 1);
+        x.gcd(square, high);
+        Check.no("(x - 1)^2, after work on a high degree", x.squareFree(square));
         Check.fails("squareFree p 80", INDEX, () -> x.squareFree(80));
         Check.fails("squareFree p -1", INDEX, () -> x.squareFree(-1));
     }

@@ -29,6 +29,9 @@ public final class RandomTest {
         for (int k = 0; k < 400; k++) {
             smallRoots(chosen(1 + k % 4, 6));
         }
+        for (int k = 0; k < 200; k++) {
+            nothingIsLeftOver();
+        }
         Check.end();
     }
 
@@ -195,5 +198,64 @@ public final class RandomTest {
             }
         }
         Check.same(what, x.roots(p), slow.length == 0 ? -1 : found);
+    }
+
+    /** An object that has been asked much answers like a new one with the same polynomials. */
+    private static void nothingIsLeftOver() {
+        LiftFactors used = new LiftFactors();
+        int[][] rows = new int[6][];
+        for (int k = 0; k < rows.length; k++) {
+            rows[k] = ofFewFactors();
+            place(used, 70 + k, rows[k]);
+        }
+        for (int k = 0; k < 50 && used.count() < 60; k++) {
+            int a = CHANCE.nextInt(rows.length);
+            int b = CHANCE.nextInt(rows.length);
+            LiftFactors fresh = new LiftFactors();
+            place(fresh, 70, rows[a]);
+            place(fresh, 71, rows[b]);
+            int question = CHANCE.nextInt(7);
+            Check.same("question " + question + " about " + Arrays.toString(rows[a]) + " and " + Arrays.toString(rows[b]),
+                    ask(question, used, 70 + a, 70 + b), ask(question, fresh, 70, 71));
+        }
+    }
+
+    private static int[] ofFewFactors() {
+        BigInteger[] product = {BigInteger.valueOf(1 + CHANCE.nextInt(3))};
+        for (int k = 0; k < 6; k++) {
+            BigInteger[] more = Slow.product(product, Slow.row(chosen(1 + CHANCE.nextInt(3), 1)));
+            product = fits(more) && more.length > 0 ? more : product;
+        }
+        return ints(product);
+    }
+
+    private static void place(LiftFactors x, int p, int[] row) {
+        for (int k = 0; k < row.length; k++) {
+            x.set(p, k, row[k]);
+        }
+    }
+
+    private static long ask(int question, LiftFactors x, int p, int q) {
+        return switch (question) {
+            case 0 -> x.squareFree(p) ? 1 : 0;
+            case 1 -> x.roots(p);
+            case 2 -> x.parts(p, 3) * 100 + x.parts(p, 97);
+            case 3 -> x.content(p);
+            case 4 -> spot(x, x.gcd(p, q));
+            case 5 -> spot(x, x.over(p, q));
+            default -> spotOfFactors(x, x.run(p));
+        };
+    }
+
+    private static long spot(LiftFactors x, int number) {
+        return number < 0 ? number : x.value(number, 54321, 999983);
+    }
+
+    private static long spotOfFactors(LiftFactors x, int factors) {
+        long sum = factors;
+        for (int k = 0; k < factors; k++) {
+            sum = sum * 31 + spot(x, x.factor(k)) * 11 + x.multiplicity(k);
+        }
+        return sum;
     }
 }
