@@ -124,7 +124,8 @@ final class Edges {
         samePolynomials(what, x, twin);
         for (int k = 0; k <= 10; k++) {
             int place = k;
-            Check.same(what + ", then factor " + k, ask(() -> (long) x.factor(place)), ask(() -> (long) twin.factor(place)));
+            Check.same(what + ", then factor " + k,
+                    ask(() -> (long) x.factor(place)), ask(() -> (long) twin.factor(place)));
             Check.same(what + ", then multiplicity " + k,
                     ask(() -> (long) x.multiplicity(place)), ask(() -> (long) twin.multiplicity(place)));
         }

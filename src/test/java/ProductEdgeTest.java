@@ -96,7 +96,8 @@ public final class ProductEdgeTest {
         timesIs("-9999 at the head", Edges.term(99, 4), Edges.term(-101, 6), Edges.term(-9999, 10));
         timesIsTooGreat("10000 at the head", Edges.term(100, 4), Edges.term(100, 6));
         timesIsTooGreat("-10000 at the head", Edges.term(-100, 4), Edges.term(100, 6));
-        timesIsTooGreat("as great as can be", row(9999, 9999, 9999, 9999, 9999, 9999), row(9999, 9999, 9999, 9999, 9999));
+        timesIsTooGreat("as great as can be",
+                row(9999, 9999, 9999, 9999, 9999, 9999), row(9999, 9999, 9999, 9999, 9999));
     }
 
     /** "it would be too great": the product itself, not what is summed up on the way to it. */

@@ -80,7 +80,8 @@ public final class QuestionEdgeTest {
         Edges.unchanged("roots of " + what, found, busy(coefficients), x -> x.roots(PLACE));
         for (int k = 0; k < found; k++) {
             int place = k;
-            Edges.unchanged("root " + k + " above of " + what, due[2 * k], busy(coefficients), x -> x.root(PLACE, place, 0));
+            Edges.unchanged("root " + k + " above of " + what, due[2 * k],
+                    busy(coefficients), x -> x.root(PLACE, place, 0));
             Edges.unchanged("root " + k + " below of " + what, due[2 * k + 1],
                     busy(coefficients), x -> x.root(PLACE, place, 1));
         }
@@ -90,8 +91,10 @@ public final class QuestionEdgeTest {
     /** "there is no such root", from this one on, and below 0, for either part. */
     private static void noRoot(String what, int found, int... coefficients) {
         for (int k : new int[] {found, found + 1, -1, Edges.LEAST, Edges.GREATEST}) {
-            Edges.refused("root " + k + " above of " + what, Edges.ARGUMENT, busy(coefficients), x -> x.root(PLACE, k, 0));
-            Edges.refused("root " + k + " below of " + what, Edges.ARGUMENT, busy(coefficients), x -> x.root(PLACE, k, 1));
+            Edges.refused("root " + k + " above of " + what, Edges.ARGUMENT,
+                    busy(coefficients), x -> x.root(PLACE, k, 0));
+            Edges.refused("root " + k + " below of " + what, Edges.ARGUMENT,
+                    busy(coefficients), x -> x.root(PLACE, k, 1));
         }
     }
 
@@ -318,7 +321,7 @@ public final class QuestionEdgeTest {
         valueIs(6, 0, 7, -1);
     }
 
-    /** "at a whole number x": the least int and the greatest, and those next to them, with the greatest coefficients. */
+    /** "at a whole number x": the least int and the greatest among them, with the greatest coefficients. */
     private static void valuesOfTheLeastAndTheGreatest() {
         int[][] rows = {row(0, 1), row(0, 0, 1), Edges.term(9999, 10), Edges.term(-9999, 10),
             row(9999, -9999, 9999, -9999, 9999, -9999, 9999, -9999, 9999, -9999, 9999),

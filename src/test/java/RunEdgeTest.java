@@ -76,7 +76,8 @@ public final class RunEdgeTest {
         Edges.unchanged("the first", -2, busy(40, 5003, 4997, 6, -6, 6, 4997, 5003), x -> x.run(PLACE));
         Edges.unchanged("the last", -2, busy(40, TOO_GREAT), x -> x.run(PLACE));
         Edges.unchanged("the middle one", -2, busy(40, 0, 5003, 4997, 6, -6, 6, 4997, 5003), x -> x.run(PLACE));
-        Edges.unchanged("behind one that counts twice", -2, busy(40, 0, 0, -5003, -4997, 4997, 5003), x -> x.run(PLACE));
+        Edges.unchanged("behind one that counts twice", -2,
+                busy(40, 0, 0, -5003, -4997, 4997, 5003), x -> x.run(PLACE));
     }
 
     /** "what was factored stays": nothing, if nothing was. */
@@ -140,7 +141,8 @@ public final class RunEdgeTest {
         Edges.factored("by heads before tails", busy(40, 6, -7, -3), PLACE, once(2), row(3, 1), row(-2, 3));
         Edges.factored("by tails", busy(40, -6, 1, 1), PLACE, once(2), row(-2, 1), row(3, 1));
         Edges.factored("by the middle", busy(40, 1, 0, 1, 0, 1), PLACE, once(2), row(1, -1, 1), row(1, 1, 1));
-        Edges.factored("multiplicities don't order", busy(40, 0, -1, 3, -3, 1), PLACE, row(3, 1), row(-1, 1), row(0, 1));
+        Edges.factored("multiplicities don't order", busy(40, 0, -1, 3, -3, 1), PLACE, row(3, 1),
+                row(-1, 1), row(0, 1));
     }
 
     /** A factor's number may be that of the polynomial itself, if that wasn't given. */
@@ -219,10 +221,13 @@ public final class RunEdgeTest {
 
     /** "The MULTIPLICITY of one is how often it divides": from 1 to 10; contents and signs don't count. */
     private static void greatestMultiplicity() {
-        Edges.factored("(x + 1)^10", busy(10, 1, 10, 45, 120, 210, 252, 210, 120, 45, 10, 1), PLACE, row(10), row(1, 1));
+        Edges.factored("(x + 1)^10", busy(10, 1, 10, 45, 120, 210, 252, 210, 120, 45, 10, 1), PLACE, row(10),
+                row(1, 1));
         Edges.factored("-9999x^10", busy(10, Edges.term(-9999, 10)), PLACE, row(10), row(0, 1));
-        Edges.factored("x^9 (2x - 2)", busy(10, 0, 0, 0, 0, 0, 0, 0, 0, 0, -2, 2), PLACE, row(1, 9), row(-1, 1), row(0, 1));
-        Edges.factored("(x^5 - 2)^2", busy(10, 4, 0, 0, 0, 0, -4, 0, 0, 0, 0, 1), PLACE, row(2), row(-2, 0, 0, 0, 0, 1));
+        Edges.factored("x^9 (2x - 2)", busy(10, 0, 0, 0, 0, 0, 0, 0, 0, 0, -2, 2), PLACE, row(1, 9),
+                row(-1, 1), row(0, 1));
+        Edges.factored("(x^5 - 2)^2", busy(10, 4, 0, 0, 0, 0, -4, 0, 0, 0, 0, 1), PLACE, row(2),
+                row(-2, 0, 0, 0, 0, 1));
         Edges.factored("4x + 4", busy(10, 4, 4), PLACE, row(1), row(1, 1));
     }
 }

@@ -236,7 +236,7 @@ public final class TermsEdgeTest {
             Check.same("poly", x.poly(), p);
         }
         Check.yes("the last can be set", x.set(79, 10, 1));
-        Edges.given("the last poly", () -> Edges.busy(1), x1 -> x1.poly());
+        Edges.given("the last poly", () -> Edges.busy(1), y -> y.poly());
     }
 
     /** "IllegalStateException: no number is left". */
