@@ -14,6 +14,14 @@ final class Check {
         }
     }
 
+    static void same(String what, String got, String due) {
+        made++;
+        if (!got.equals(due)) {
+            wrong++;
+            System.out.println(what + " answered " + got + ", due is " + due);
+        }
+    }
+
     static void yes(String what, boolean got) {
         same(what, got ? 1 : 0, 1);
     }
@@ -29,7 +37,7 @@ final class Check {
         try {
             call.run();
         } catch (RuntimeException e) {
-            got = (isTheMachines(e) ? "by the machine: " : "") + e.getClass().getName();
+            got = name(e);
         }
         if (!got.equals(due.getName())) {
             wrong++;
@@ -37,7 +45,11 @@ final class Check {
         }
     }
 
-    private static boolean isTheMachines(RuntimeException e) {
+    static String name(Throwable e) {
+        return (isTheMachines(e) ? "by the machine: " : "") + e.getClass().getName();
+    }
+
+    private static boolean isTheMachines(Throwable e) {
         String text = e.getMessage();
         return text == null || text.contains("out of bounds") || text.contains("by zero");
     }

@@ -1,6 +1,5 @@
 import java.math.BigInteger;
 import java.util.Arrays;
-import java.util.Comparator;
 import java.util.Random;
 import java.util.TreeMap;
 
@@ -43,23 +42,6 @@ public final class RandomTest {
         return row;
     }
 
-    private static boolean fits(BigInteger[] row) {
-        for (BigInteger v : row) {
-            if (v.abs().compareTo(BigInteger.valueOf(9999)) > 0) {
-                return false;
-            }
-        }
-        return row.length <= 11;
-    }
-
-    private static int[] ints(BigInteger[] row) {
-        int[] result = new int[row.length];
-        for (int k = 0; k < row.length; k++) {
-            result[k] = row[k].intValueExact();
-        }
-        return result;
-    }
-
     private static void single(int[] row) {
         String what = Arrays.toString(row);
         LiftFactors x = new LiftFactors();
@@ -69,7 +51,8 @@ public final class RandomTest {
         Check.same("squareFree of " + what, x.squareFree(p) ? 1 : 0, Slow.squareFree(slow) ? 1 : 0);
         int m = 1 + CHANCE.nextInt(1000000);
         int place = CHANCE.nextInt();
-        Check.same("value of " + what + " at " + place + " modulo " + m, x.value(p, place, m), Slow.value(slow, place, m));
+        Check.same("value of " + what + " at " + place + " modulo " + m,
+                x.value(p, place, m), Slow.value(slow, place, m));
         if (slow.length > 1) {
             productOfFactors(what, x, p, slow);
         }
@@ -100,19 +83,19 @@ public final class RandomTest {
     private static void pair(int[] shared, int[] left, int[] right) {
         BigInteger[] a = Slow.product(Slow.row(shared), Slow.row(left));
         BigInteger[] b = Slow.product(Slow.row(shared), Slow.row(right));
-        if (!fits(a) || !fits(b)) {
+        if (!Slow.fits(a) || !Slow.fits(b)) {
             return;
         }
         String what = Arrays.toString(a) + " and " + Arrays.toString(b);
         LiftFactors x = new LiftFactors();
-        int p = Check.make(x, ints(a));
-        int q = Check.make(x, ints(b));
+        int p = Check.make(x, Slow.ints(a));
+        int q = Check.make(x, Slow.ints(b));
         answer("gcd of " + what, x, x.gcd(p, q), Slow.gcd(a, b));
         if (b.length > 0) {
             answer("over of " + what, x, x.over(p, q), Slow.quotient(a, b));
         }
         BigInteger[] product = Slow.product(a, b);
-        if (fits(product)) {
+        if (Slow.fits(product)) {
             answer("times of " + what, x, x.times(p, q), product);
         } else {
             Check.fails("times of " + what, IllegalArgumentException.class, () -> x.times(p, q));
@@ -120,11 +103,11 @@ public final class RandomTest {
     }
 
     private static void answer(String what, LiftFactors x, int number, BigInteger[] due) {
-        if (due == null || !fits(due)) {
+        if (due == null || !Slow.fits(due)) {
             Check.same(what, number, -1);
         } else {
             Check.same(what, number, x.count() - 1);
-            Check.row(what, x, number, ints(due));
+            Check.row(what, x, number, Slow.ints(due));
         }
     }
 
@@ -142,30 +125,23 @@ public final class RandomTest {
     }
 
     private static void knownFactors(LiftFactors x) {
-        Comparator<BigInteger[]> order = (a, b) -> {
-            int before = Integer.compare(a.length, b.length);
-            for (int k = a.length - 1; k >= 0 && before == 0; k--) {
-                before = a[k].compareTo(b[k]);
-            }
-            return before;
-        };
-        TreeMap<BigInteger[], Integer> due = new TreeMap<>(order);
+        TreeMap<BigInteger[], Integer> due = new TreeMap<>(Slow.ORDER);
         BigInteger[] product = {BigInteger.valueOf(CHANCE.nextBoolean() ? 2 : -1)};
         for (int k = 0; k < 12; k++) {
             BigInteger[] next = prime();
             BigInteger[] more = Slow.product(product, next);
-            if (fits(more)) {
+            if (Slow.fits(more)) {
                 product = more;
                 due.merge(next, 1, Integer::sum);
             }
         }
-        int p = Check.make(x, ints(product));
+        int p = Check.make(x, Slow.ints(product));
         String what = "factors of " + Arrays.toString(product);
         Check.same(what, x.run(p), due.size());
         int k = 0;
         for (BigInteger[] factor : due.keySet()) {
             Check.same(what, x.multiplicity(k), due.get(factor));
-            Check.row(what, x, x.factor(k), ints(factor));
+            Check.row(what, x, x.factor(k), Slow.ints(factor));
             k++;
         }
     }
@@ -215,7 +191,8 @@ public final class RandomTest {
             place(fresh, 70, rows[a]);
             place(fresh, 71, rows[b]);
             int question = CHANCE.nextInt(7);
-            Check.same("question " + question + " about " + Arrays.toString(rows[a]) + " and " + Arrays.toString(rows[b]),
+            String what = Arrays.toString(rows[a]) + " and " + Arrays.toString(rows[b]);
+            Check.same("question " + question + " about " + what,
                     ask(question, used, 70 + a, 70 + b), ask(question, fresh, 70, 71));
         }
     }
@@ -224,9 +201,9 @@ public final class RandomTest {
         BigInteger[] product = {BigInteger.valueOf(1 + CHANCE.nextInt(3))};
         for (int k = 0; k < 6; k++) {
             BigInteger[] more = Slow.product(product, Slow.row(chosen(1 + CHANCE.nextInt(3), 1)));
-            product = fits(more) && more.length > 0 ? more : product;
+            product = Slow.fits(more) && more.length > 0 ? more : product;
         }
-        return ints(product);
+        return Slow.ints(product);
     }
 
     private static void place(LiftFactors x, int p, int[] row) {

@@ -1,8 +1,18 @@
 import java.math.BigInteger;
 import java.util.Arrays;
+import java.util.Comparator;
 
-/** The document's words done the slow way, with whole numbers of any size: what RandomTest compares with. */
+/** The document's words done the slow way, with whole numbers of any size: what the class is compared with. */
 final class Slow {
+    /** "by degrees, then by the coefficient at the highest power where they differ". */
+    static final Comparator<BigInteger[]> ORDER = (a, b) -> {
+        int before = Integer.compare(a.length, b.length);
+        for (int k = a.length - 1; k >= 0 && before == 0; k--) {
+            before = a[k].compareTo(b[k]);
+        }
+        return before;
+    };
+
     private Slow() {
     }
 
@@ -20,6 +30,24 @@ final class Slow {
             length--;
         }
         return Arrays.copyOf(row, length);
+    }
+
+    /** Whether it isn't too great. */
+    static boolean fits(BigInteger[] row) {
+        for (BigInteger v : row) {
+            if (v.abs().compareTo(BigInteger.valueOf(9999)) > 0) {
+                return false;
+            }
+        }
+        return row.length <= 11;
+    }
+
+    static int[] ints(BigInteger[] row) {
+        int[] result = new int[row.length];
+        for (int k = 0; k < row.length; k++) {
+            result[k] = row[k].intValueExact();
+        }
+        return result;
     }
 
     static BigInteger[] product(BigInteger[] a, BigInteger[] b) {
@@ -94,12 +122,16 @@ final class Slow {
         return trim(row);
     }
 
-    static boolean squareFree(BigInteger[] a) {
-        BigInteger[] derived = new BigInteger[Math.max(0, a.length - 1)];
+    static BigInteger[] derived(BigInteger[] a) {
+        BigInteger[] row = new BigInteger[Math.max(0, a.length - 1)];
         for (int k = 1; k < a.length; k++) {
-            derived[k - 1] = a[k].multiply(BigInteger.valueOf(k));
+            row[k - 1] = a[k].multiply(BigInteger.valueOf(k));
         }
-        return a.length > 0 && gcd(a, trim(derived)).length == 1;
+        return trim(row);
+    }
+
+    static boolean squareFree(BigInteger[] a) {
+        return a.length > 0 && gcd(a, derived(a)).length == 1;
     }
 
     static int value(BigInteger[] a, int x, int m) {
