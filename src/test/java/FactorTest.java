@@ -12,6 +12,8 @@ public final class FactorTest {
         factorsOverThePolynomial();
         hardOnes();
         primesThatAreUnfit();
+        severalPrimesThatAreUnfit();
+        valuesThatGoRoundALong();
         factorAndMultiplicity();
         latestOnly();
         squareFree();
@@ -192,6 +194,40 @@ public final class FactorTest {
         int c = Check.make(x, -7, -4093, 4100);
         int d = Check.make(x, -4100, -573, 4673);
         Check.row("one root in common, another modulo 16777289", x, x.gcd(c, d), -1, 1);
+    }
+
+    /** Roots in common, or twice, modulo several of these primes at once, from the least on. */
+    private static void severalPrimesThatAreUnfit() {
+        LiftFactors x = new LiftFactors();
+        int a = Check.make(x, 4655, -3452, -1067, -73, 4789, -438, -1095, 2949, -1048, 526, 414);
+        int b = Check.make(x, 3437, 1266, -210, -1163, -5039, -1915, -2872, -1441, 3194, 2524, -627);
+        Check.row("a root in common modulo six primes", x, x.gcd(a, b), 1);
+        int c = Check.make(x, 1392, 46, 2694, 513, -151, -20, -4036, -553, -3581, 714, 132);
+        int d = Check.make(x, 2000, 378, 3478, 1765, -125, 2697, -131, 386, 1860, -1446, 243);
+        Check.row("3x^2 + 2, and a root in common modulo four primes", x, x.gcd(c, d), 2, 0, 3);
+        int[] single = {-4179, 493, 5484, 7404, 5034, -1481, 4647, 2545, -4018, -1215, 8};
+        irreducible("a double root modulo three primes", single);
+        Check.yes("a double root modulo three primes", x.squareFree(Check.make(x, single)));
+        int e = Check.make(x, -669, 1532, -1244, 1315, -2100, 1331, 1154, -2339, 844, 307, -131);
+        Check.no("(x - 1)^2, and a double root modulo two primes", x.squareFree(e));
+        int before = x.count();
+        Check.same("(x - 1)^2, and a double root modulo two primes", x.run(e), 2);
+        Check.row("x - 1", x, before, -1, 1);
+        Check.same("x - 1", x.multiplicity(0), 2);
+        Check.row("the other", x, before + 1, 669, -194, 187, -747, 419, 254, -1065, -45, 131);
+        Check.same("the other", x.multiplicity(1), 1);
+    }
+
+    /** At -9999 this one isn't 0, but 0 modulo 2^64 and modulo 16777259: a long that goes round must not mislead. */
+    private static void valuesThatGoRoundALong() {
+        int[] round = {-9999, -55, -65, 81, -135, -311, 210, -37, -48, 28, 59};
+        irreducible("0 modulo 2^64", round);
+        LiftFactors x = new LiftFactors();
+        int p = Check.make(x, round);
+        int line = Check.make(x, 9999, 1);
+        Check.row("0 modulo 2^64", x, x.gcd(p, line), 1);
+        Check.same("0 modulo 2^64", x.over(p, line), -1);
+        Check.same("0 modulo 2^64", x.roots(p), 0);
     }
 
     private static void factorAndMultiplicity() {
