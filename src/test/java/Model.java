@@ -5,8 +5,8 @@ import java.util.List;
 import java.util.TreeMap;
 
 /**
- * The document as an object, done the slow way: what RunsTest compares every answer with. Pieces of factors are joined as
- * in the class, but come by degrees and by a far greater prime; parts come by degrees too, and roots by the factors.
+ * The document as an object, done the slow way: what RunsTest compares every answer with. Pieces of factors are joined
+ * as in the class, but come by degrees and by a far greater prime; parts come by degrees too, and roots by the factors.
  */
 final class Model {
     private static final SlowFactors FACTORS = new SlowFactors();
